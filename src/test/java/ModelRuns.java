@@ -71,8 +71,12 @@ public final class ModelRuns {
         }
         int most = 40 + lot.nextInt(472);
         while (calls < most && !wrong) {
-            int turn = lot.nextInt(16);
-            if (turn == 0) {
+            int turn = lot.nextInt(18);
+            if (turn == 17) {
+                useSlots();
+            } else if (turn == 16 && lot.nextInt(20) == 0) {
+                fillUp();
+            } else if (turn == 0) {
                 tellText();
             } else if (turn == 1) {
                 tellCorners();
@@ -289,6 +293,32 @@ public final class ModelRuns {
             both("mark", sheet, i, lot.nextInt(9) == 0 ? pick(OakDeeds.NONE, 0, 821, -5) : drawArgument('R'));
         }
         both("pour", sheet, lot.nextInt(3));
+    }
+
+    private void useSlots() throws Exception {
+        int slot = lot.nextInt(5);
+        int thing = lot.nextInt(4);
+        int k = thing == 1 ? 100 * lot.nextInt(4) + lot.nextInt(6) : lot.nextInt(thing == 2 ? 4 : 1000) - thing / 3 * 500;
+        both("lay", slot, thing, k);
+        for (int i = 0; i < 6; i++) {
+            both("ask", slot, i);
+            both("item", slot, lot.nextInt(12));
+            both("rest", slot, lot.nextInt(20) - 10);
+        }
+    }
+
+    /** Brings one of the rows that have a limit up to it, and beyond. */
+    private void fillUp() throws Exception {
+        int which = lot.nextInt(3);
+        for (int i = 0; i < (which == 0 ? 62 : which == 1 ? 9 : 15); i++) {
+            if (which == 0) {
+                both("tell", i);
+            } else if (which == 1) {
+                both("feed", lot.nextInt(), lot.nextInt(), lot.nextInt());
+            } else {
+                tellText();
+            }
+        }
     }
 
     private void both(String name, int... args) throws Exception {
