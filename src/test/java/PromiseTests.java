@@ -376,6 +376,14 @@ public final class PromiseTests {
         due("what 2 of no corner", x.corner(0, 9, 2), BAD);
         due("what -1", x.corner(0, 0, -1), BAD);
         due("deed 1", x.corner(1, 0, 0), BAD);
+        OakDeeds ten = new OakDeeds();
+        ten.deed(0, 0, 0);
+        for (int i = 0; i < 10; i++) {
+            ten.call(0, 0, 120);
+        }
+        due("x of the corner 10", ten.corner(0, 10, 0), 200);
+        due("y of the corner 10", ten.corner(0, 10, 1), 200);
+        due("corner 11", ten.corner(0, 11, 1), NONE);
         OakDeeds short9 = new OakDeeds();
         short9.deed(0, 0, -9);
         short9.call(0, 0, 119);
@@ -446,6 +454,41 @@ public final class PromiseTests {
         due("by a text", x.whose(909), 1);
         rectangle(x, 909, 0, 1, 1);
         due("the least rank of three", x.whose(909), 2);
+        edgesOfCells();
+    }
+
+    private static void edgesOfCells() {
+        OakDeeds x = new OakDeeds();
+        x.keep();
+        rectangle(x, 0, 5, 20, 3);
+        rectangle(x, 1000, 4, 19, 2);
+        promise = 20;
+        due("in the lowest rows", x.over(0, 1), 20);
+        promise = 21;
+        due("at x 12, y 0", x.whose(1200), 1);
+        due("at x 12, y 2", x.whose(1202), 0);
+        due("at x 0, y 2", x.whose(2), 0);
+        due("at x 9, y 0", x.whose(900), 0);
+        due("at x 28, y 1", x.whose(2801), 1);
+        due("at x 29, y 1", x.whose(2901), NONE);
+        promise = 22;
+        due("owned in the lowest rows", x.owned(0), 40);
+        due("nobody's", x.owned(-1), 900 - 40 - 38);
+        x.back();
+        due("none owns any more", x.owned(-1), 900);
+        promise = 21;
+        due("nobody's any more", x.whose(1200), NONE);
+        OakDeeds y = new OakDeeds();
+        y.stone(40, 40);
+        y.stone(-40, 40);
+        y.deed(1500, 0, 0);
+        y.call(0, 3, 1);
+        y.call(0, 3, 2);
+        promise = 18;
+        due("the highest row", y.holds(0, 2929), 1);
+        due("the highest row, left", y.holds(0, 29), 1);
+        promise = 21;
+        due("the highest row", y.whose(2929), 0);
     }
 
     private static void slipsNeedlesChains() {
@@ -490,6 +533,22 @@ public final class PromiseTests {
         text(n, "needle 2");
         due("best chain with the needle that counts", n.best(0, 3), 0);
 
+        OakDeeds c = new OakDeeds();
+        c.stone(23, 10);
+        c.stone(10, 21);
+        c.deed(1010, 7, 3);
+        due("best needle of no calls", c.best(0, 0), 0);
+        c.call(0, 3, 1);
+        c.call(0, 0, 412);
+        due("the longest chain closes it: 12 are 13", c.best(0, 2), 9);
+        due("gap with it", c.best(0, 3), 0);
+        due("gap with the needle 0 and the chain that counts", c.best(0, 1), 1);
+        due("needle 0", c.best(0, 0), 0);
+        c.deed(1010, 7, 3);
+        c.call(1, 3, 2);
+        c.call(1, 1, 612);
+        due("a shorter chain closes it: 12 are 11", c.best(1, 2), -8);
+
         promise = 25;
         due("learnt", n.learn(7), 2);
         due("no deed of it", n.learn(8), NONE);
@@ -533,6 +592,15 @@ public final class PromiseTests {
         due("exchanged: gap", e.slip(0, 0), 0);
         due("exchanged", e.slip(0, 1), 3);
         due("exchanged: call", e.slip(0, 2), 0);
+        OakDeeds t = new OakDeeds();
+        t.stone(20, 10);
+        t.deed(1010, 0, 0);
+        t.call(0, 1, 3);
+        t.call(0, 3, 1);
+        t.call(0, 1, 10);
+        due("the one behind the stone turned about: gap", t.slip(0, 0), 0);
+        due("the one behind the stone turned about", t.slip(0, 1), 2);
+        due("the one behind the stone turned about: call", t.slip(0, 2), 2);
     }
 
     private static void nearAndWould() {
@@ -551,8 +619,24 @@ public final class PromiseTests {
         x.move(0, 4, 4);
         due("of corners the first", x.near(0, 0), 0);
         due("how far", x.near(0, 1), 2);
+        x.move(0, 16, 13);
+        due("a corner that is not the first", x.near(0, 0), 102);
+        due("how far", x.near(0, 1), 2);
+        x.move(0, 5, 12);
+        due("a corner of the first deed", x.near(0, 0), 3);
         due("what -1", x.near(0, -1), BAD);
         due("stone -1", x.near(-1, 0), BAD);
+        OakDeeds s = new OakDeeds();
+        s.stone(29, 0);
+        s.keep();
+        s.deed(2900, 0, 0);
+        due("at the beginning", s.near(0, 1), 0);
+        s.back();
+        s.deed(505, 0, 0);
+        due("corners that are gone do not count", s.near(0, 1), 29);
+        s.call(0, 0, 120);
+        s.drop(0, 0);
+        due("corners that are gone do not count", s.near(0, 0), 0);
 
         promise = 27;
         OakDeeds w = new OakDeeds();
@@ -573,6 +657,15 @@ public final class PromiseTests {
         rectangle(w, 1010, 1, 19, 5);
         // Corners (10, 10), (10, 15), (0, 15): 50 cells become the other's, 1 + 3 + 5 + 7 + 9 that were nobody's come.
         due("would be another's", w.would(0, 10, 10), 75);
+        OakDeeds low = new OakDeeds();
+        low.stone(20, 0);
+        low.deed(1000, 0, 0);
+        low.call(0, 3, 1);
+        low.call(0, 1, 201);
+        low.call(0, 2, 1);
+        // A triangle of height 1 with its cells at x 15 .. 19 of the row 0.
+        due("in the lowest row", low.would(0, 10, 0), low.field(0));
+        due("held in the lowest row", low.field(0), 5);
         due("x too far", w.would(0, 100, 0), BAD);
         due("y too far", w.would(0, 0, -100), BAD);
         due("no stone", w.would(1, 0, 0), BAD);
@@ -642,9 +735,10 @@ public final class PromiseTests {
         String[] texts = {"1+2*3", "(1+2)*3", "7-2-1", "20/3/2", "7/0", "0-7/2", "1<2", "2<1", "2=2", "2=3", "3>2",
             "2>3", "1<2=0", "1|0", "0|0", "5&3", "5&0", "1|1&0", "!0", "!7", "!!7", "!0+5", "1+1=2&3>2", "y", "n", "c",
             "y-1=4", "9999*9999*9999", "0009", "!(y=5)", "(0-7)/2", "9999*9999*30/(0-1)", "2&!n", " 4 + y ",
-            "2*3<7|0", "0-(9999*9999*30)"};
+            "2*3<7|0", "0-(9999*9999*30)", "2<2", "2>2", "0<1", "1230", "4567", "890", "n=1", "n<1", "0*y", "!y|!!n",
+            "5/(0-2)", "1-1|0&1", "3>2+2", "3*2>5", "0=0&0", "0/5"};
         int[] wants = {7, 9, 4, 3, 0, -3, 1, 0, 1, 0, 1, 0, BAD, 1, 0, 1, 0, 1, 1, 0, 1, 6, 1, 5, 1, 2, 1,
-            9999 * 9999 * 9999, 9, 0, -3, 9999 * 9999 * 30 / -1, 0, 9, 1, -(9999 * 9999 * 30)};
+            9999 * 9999 * 9999, 9, 0, -3, 9999 * 9999 * 30 / -1, 0, 9, 1, -(9999 * 9999 * 30), 0, 0, 1, 1230, 4567, 890, 1, 0, 0, 1, -2, 0, 0, 1, 0, 0};
         for (int i = 0; i < texts.length; i++) {
             OakDeeds x = new OakDeeds();
             x.deed(0, 0, 0);
@@ -667,9 +761,11 @@ public final class PromiseTests {
             "first ()", "first y+", "first +y", "first y<1<2", "first (y<1)<2", "first y!", "first !", "first s",
             "needle n", "chain c", "chain n", "needle s", "First y", "first Y", "first\ty", "first y\t", "first y  ",
             "  first(y)", "first y==1", "first y 5", "first 1 2", "first(1)(2)", "first y&&n", "first \u0000",
-            "first y,", "first 99999+", "first y first", "first\u00e9"};
+            "first y,", "first 99999+", "first y first", "first\u00e9", "first yz", "first ya", "first 12340", "first 12349",
+            "hirst y", "firsy y", "firs y", "chai s", "cha", "first y`", "first y{", "first 1:", "first y'", "first (y))",
+            "first ((y)", "needle y|", "needle !!", "needle y<", "needle !(y", "first 1 (2)", "first 00000"};
         int[] faults = {0, 3, 0, 0, 6, 7, 0, 6, 5, 0, 7, 7, 8, 6, 6, -1, 8, 7, 7, 8, 6, 9, -1, 7, 7, 6, 7, 6, 6, 7, 0,
-            6, 5, 7, -1, -1, 8, 8, 8, 8, 8, 6, 7, 6, 8, 5};
+            6, 5, 7, -1, -1, 8, 8, 8, 8, 8, 6, 7, 6, 8, 5, 6, 6, 6, 6, 0, 0, 0, 0, 0, 7, 7, 7, 7, 9, 10, 9, 9, 9, 10, 8, 6};
         for (int i = 0; i < texts.length; i++) {
             OakDeeds x = new OakDeeds();
             due("\"" + texts[i] + "\"", text(x, texts[i]), faults[i] < 0 ? 0 : -100 - faults[i]);
@@ -763,7 +859,34 @@ public final class PromiseTests {
         due("one behind the others", x.pour(0, 0), 1);
         due("length", x.told(0, 9, 2), 1);
 
+        x.sheet(1, 0, 24);
+        for (int i = 0; i < 24; i++) {
+            x.mark(1, i, 205);
+        }
+        due("a whole sheet has no room", x.pour(1, 0), FULL);
+        x.sheet(1, 0, 2);
+        x.mark(1, 0, 205);
+        x.mark(1, 1, 120);
+        due("two have no room", x.pour(1, 0), FULL);
+        x.drop(0, 0);
+        due("two have no room", x.pour(1, 0), FULL);
+        x.drop(0, 0);
+        due("two have room", x.pour(1, 0), 2);
+        due("way", x.told(0, 9, 1), 1);
+        due("length", x.told(0, 9, 2), 20);
+        due("way", x.told(0, 8, 1), 2);
+        OakDeeds z = new OakDeeds();
+        z.deed(0, 0, 0);
+        z.sheet(0, 0, 1);
+        z.mark(0, 0, 100 + 65536 + 7);
+        due("of shorts the lowest 16 bits", z.pour(0, 0), 1);
+        due("length", z.told(0, 0, 2), 7);
+
         promise = 36;
+        OakDeeds none = new OakDeeds();
+        none.deed(0, 0, 0);
+        none.sheet(0, 0, 3);
+        due("0 beyond the last corner", none.reads(0, 0), 2);
         OakDeeds y = new OakDeeds();
         rectangle(y, 300, 0, 2, 1);
         due("missing", y.reads(0, 0), NOTHING);
@@ -844,6 +967,17 @@ public final class PromiseTests {
         x.call(1, 3, 302);
         promise = 38;
         due("a call", x.lay(0, 1, 101), 0);
+        x.keep();
+        x.call(0, 0, 317);
+        x.call(0, 5, 213);
+        due("the call 0 of the deed 0", x.lay(1, 1, 0), 0);
+        due("its worth", x.ask(1, 0), 17);
+        due("the call 1 of the deed 0", x.lay(1, 1, 1), 1);
+        due("its worth", x.ask(1, 0), -13);
+        due("the call 0 of the deed 1", x.lay(1, 1, 100), 1);
+        due("its worth", x.ask(1, 0), 4);
+        x.lay(1, 0, 0);
+        x.back();
         due("a sheet that is missing", x.lay(0, 2, 0), NOTHING);
         x.sheet(0, 0, 2);
         due("a sheet", x.lay(0, 2, 0), 1);
@@ -1005,7 +1139,17 @@ public final class PromiseTests {
         promise = 45;
         due("as the last image", x.count(1), 2);
 
+        OakDeeds gone = new OakDeeds();
+        gone.keep();
+        rectangle(gone, 505, 77, 10, 6);
+        gone.back();
+        promise = 25;
+        due("a deed that is gone", gone.learn(77), NONE);
+        gone.deed(0, 5, 0);
+        due("a deed that is gone", gone.learn(77), NONE);
         promise = 46;
+        due("its calls are gone", gone.count(2), 0);
+        due("a new deed has none of them", gone.deedTold(0, 4), 0);
         due("stones", x.count(0), 1);
         due("deeds", x.count(1), 2);
         due("calls", x.count(2), 4);
