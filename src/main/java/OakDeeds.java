@@ -950,12 +950,15 @@ public final class OakDeeds {
         }
 
         void goOn(int kind, int way, int length) {
+            if (kind == TO && land.hasStone(length - 1)) {
+                x = land.stoneX[length - 1];
+                y = land.stoneY[length - 1];
+                return;
+            }
             switch (kind) {
                 case STRAIGHT:
-                    stepBy(way, length);
-                    break;
                 case TO:
-                    goToStone(way, length);
+                    stepBy(way, length);
                     break;
                 case BACK:
                     x = beginX;
@@ -970,16 +973,6 @@ public final class OakDeeds {
                     break;
                 default:
                     stepBy(way + needle, length);
-            }
-        }
-
-        void goToStone(int way, int length) {
-            int stone = length - 1;
-            if (land.hasStone(stone)) {
-                x = land.stoneX[stone];
-                y = land.stoneY[stone];
-            } else {
-                stepBy(way, length);
             }
         }
 
@@ -1232,7 +1225,7 @@ public final class OakDeeds {
                     top++;
                     stack[top] = named(-code, deed, deedNumber);
                 } else if (code == -'!' && top >= 0) {
-                    stack[top] = truth(stack[top] == 0);
+                    stack[top] = stack[top] == 0 ? 1 : 0;
                 } else if (top >= 1) {
                     top--;
                     stack[top] = joined(-code, stack[top], stack[top + 1]);
@@ -1257,15 +1250,15 @@ public final class OakDeeds {
         static int joined(int sign, int a, int b) {
             switch (sign) {
                 case '|':
-                    return truth(a != 0 || b != 0);
+                    return a != 0 || b != 0 ? 1 : 0;
                 case '&':
-                    return truth(a != 0 && b != 0);
+                    return a != 0 && b != 0 ? 1 : 0;
                 case '<':
-                    return truth(a < b);
+                    return a < b ? 1 : 0;
                 case '=':
-                    return truth(a == b);
+                    return a == b ? 1 : 0;
                 case '>':
-                    return truth(a > b);
+                    return a > b ? 1 : 0;
                 case '+':
                     return a + b;
                 case '-':
@@ -1275,10 +1268,6 @@ public final class OakDeeds {
                 default:
                     return b == 0 ? 0 : a / b;
             }
-        }
-
-        static int truth(boolean is) {
-            return is ? 1 : 0;
         }
     }
 
