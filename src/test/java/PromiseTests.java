@@ -32,33 +32,12 @@ public final class PromiseTests {
         }
     }
 
-    /** Feeds a text in twelves and trims the blanks behind it. */
-    private static void tape(OakDeeds x, String text) {
-        String whole = text + " ".repeat((12 - text.length() % 12) % 12);
-        x.trim(0);
-        for (int i = 0; i < whole.length(); i += 12) {
-            x.feed(four(whole, i), four(whole, i + 4), four(whole, i + 8));
-        }
-        x.trim(text.length());
-    }
-
-    private static int four(String t, int at) {
-        return t.charAt(at) << 24 | t.charAt(at + 1) << 16 | t.charAt(at + 2) << 8 | t.charAt(at + 3);
-    }
-
     private static int text(OakDeeds x, String text) {
-        tape(x, text);
-        return x.text();
+        return Oak.text(x, text);
     }
 
-    /** A deed whose four calls go around a rectangle, the right way about. */
     private static int rectangle(OakDeeds x, int begins, int year, int wide, int high) {
-        int deed = x.deed(begins, year, 0);
-        x.call(deed, 0, wide);
-        x.call(deed, 0, 200 + high);
-        x.call(deed, 0, 400 + wide);
-        x.call(deed, 0, 600 + high);
-        return deed;
+        return Oak.rectangle(x, begins, year, wide, high);
     }
 
     private static void stonesAndDeeds() {
