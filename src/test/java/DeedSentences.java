@@ -90,8 +90,7 @@ final class DeedSentences {
         Says.due("there are none", new OakDeeds().stoneTold(0, 0), BAD);
 
         Says.in("Promise 4");
-        Says.says("`int move(int stone, int x, int y)`: A STONE is moved: how far (x and y by which it differs, their signs "
-                + "left out, together).");
+        Says.says("`int move(int stone, int x, int y)`: A STONE is moved: how far (x and y by which it differs, their signs left out, together).");
         OakDeeds moved = new OakDeeds();
         moved.stone(0, 0);
         moved.stone(-99, -99);
@@ -152,8 +151,7 @@ final class DeedSentences {
         Says.refusedAfter("a fifth", TermSentences::fillDeeds, y -> y.deed(0, 0, 0), FULL);
 
         Says.in("Promise 6");
-        Says.says("`int deedTold(int deed, int what)`: Of a DEED: what 0 x, 1 y of the BEGINNING, 2 YEAR, 3 SLACK, 4 how "
-                + "many CALLS, 5 NEEDLE, 6 CHAIN, 7 RANK.");
+        Says.says("`int deedTold(int deed, int what)`: Of a DEED: what 0 x, 1 y of the BEGINNING, 2 YEAR, 3 SLACK, 4 how many CALLS, 5 NEEDLE, 6 CHAIN, 7 RANK.");
         OakDeeds t = new OakDeeds();
         t.deed(0, 0, 0);
         t.deed(1703, 612, -4);
@@ -183,8 +181,7 @@ final class DeedSentences {
 
     private static void changes() {
         Says.in("Promise 7");
-        Says.says("`int set(int deed, int what, int v)`: YEAR (what 0), SLACK (1), the BEGINNING (2: 100 times x, and y) of "
-                + "a DEED becomes v: what it was.");
+        Says.says("`int set(int deed, int what, int v)`: YEAR (what 0), SLACK (1), the BEGINNING (2: 100 times x, and y) of a DEED becomes v: what it was.");
         OakDeeds x = new OakDeeds();
         x.deed(2907, 999, -9);
         x.deed(0, 0, 0);
@@ -220,8 +217,7 @@ final class DeedSentences {
 
     private static void calls() {
         Says.in("Promise 8");
-        Says.says("`int call(int deed, int kind, int run)`: One more CALL of a DEED (run: 100 times WAY, and LENGTH): its "
-                + "number.");
+        Says.says("`int call(int deed, int kind, int run)`: One more CALL of a DEED (run: 100 times WAY, and LENGTH): its number.");
         OakDeeds x = new OakDeeds();
         x.deed(0, 0, 0);
         x.deed(0, 0, 0);
@@ -341,8 +337,7 @@ final class DeedSentences {
 
     private static void drops() {
         Says.in("Promise 12");
-        Says.says("`int drop(int deed, int call)`: A CALL goes; those with greater numbers have one less: how many there "
-                + "are.");
+        Says.says("`int drop(int deed, int call)`: A CALL goes; those with greater numbers have one less: how many there are.");
         for (int gone = 0; gone < 10; gone++) {
             OakDeeds x = Oak.oneDeed(0);
             x.deed(0, 0, 0);
@@ -379,8 +374,7 @@ final class DeedSentences {
 
     private static void deals() {
         Says.in("Promise 13");
-        Says.says("`int deal(int deed, int n)`: CALLS of a DEED are drawn, n (1 .. 10) of them, as many as there is room "
-                + "for (no draws for others): how many came.");
+        Says.says("`int deal(int deed, int n)`: CALLS of a DEED are drawn, n (1 .. 10) of them, as many as there is room for (no draws for others): how many came.");
         for (int has = 0; has <= 10; has++) {
             for (int n = 1; n <= 10; n++) {
                 OakDeeds x = Oak.oneDeed(0);

@@ -208,8 +208,7 @@ final class GroundSentences {
 
     private static void slips() {
         Says.in("Promise 23");
-        Says.says("`int slip(int deed, int what)`: BEST SLIP of a DEED: what 0 its GAP, 1 which (0 .. 3), 2 the CALL (NONE "
-                + "by 0).");
+        Says.says("`int slip(int deed, int what)`: BEST SLIP of a DEED: what 0 its GAP, 1 which (0 .. 3), 2 the CALL (NONE by 0).");
         OakDeeds x = new OakDeeds();
         x.stone(10, 20);
         x.deed(1010, 0, 0);
@@ -243,8 +242,7 @@ final class GroundSentences {
 
     private static void needles() {
         Says.in("Promise 24");
-        Says.says("`int best(int deed, int what)`: BEST NEEDLE (what 0), the GAP with it (1), BEST CHAIN (2), the GAP with "
-                + "it (3).");
+        Says.says("`int best(int deed, int what)`: BEST NEEDLE (what 0), the GAP with it (1), BEST CHAIN (2), the GAP with it (3).");
         OakDeeds x = new OakDeeds();
         x.deed(0, 0, 0);
         x.deed(1010, 7, 3);
@@ -342,8 +340,7 @@ final class GroundSentences {
 
     private static void would() {
         Says.in("Promise 27");
-        Says.says("`int would(int stone, int x, int y)`: How many CELLS would be another one's (or nobody's, or "
-                + "somebody's), if a STONE were moved to x, y; nothing changes.");
+        Says.says("`int would(int stone, int x, int y)`: How many CELLS would be another one's (or nobody's, or somebody's), if a STONE were moved to x, y; nothing changes.");
         OakDeeds x = square(5);
         Says.due("held", x.field(0), 100);
         Says.due("to where it is", x.would(1, 10, 10), 0);

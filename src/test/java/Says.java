@@ -34,6 +34,15 @@ final class Says {
         return FAULTS;
     }
 
+    /** Tests of one kind; if the class throws, the sentence that was asked is broken, and the rest of them with it. */
+    static void group(Runnable tests) {
+        try {
+            tests.run();
+        } catch (RuntimeException | StackOverflowError e) {
+            wrong("a call threw " + e);
+        }
+    }
+
     static int asked() {
         return asked;
     }

@@ -11,13 +11,14 @@ public final class SentenceTests {
     }
 
     public static void main(String[] args) throws IOException {
-        TermSentences.run();
-        DeedSentences.run();
-        GroundSentences.run();
-        TextSentences.run();
-        SheetSentences.run();
-        int wrong = Says.broken().size() + Says.faults().size() + notOfDocument(document());
-        Says.faults().forEach(System.out::println);
+        Says.group(TermSentences::run);
+        Says.group(DeedSentences::run);
+        Says.group(GroundSentences::run);
+        Says.group(TextSentences::run);
+        Says.group(SheetSentences::run);
+        List<String> faults = Says.faults();
+        faults.forEach(System.out::println);
+        int wrong = Says.broken().size() + faults.size() + notOfDocument(document());
         System.out.println(Says.sentences().size() + " sentences, " + Says.asked() + " answers asked, "
                 + Says.broken().size() + " sentences do not hold");
         if (wrong != 0) {

@@ -49,8 +49,7 @@ final class SheetSentences {
     }
 
     private static void sheets() {
-        Says.says("SHEETS 0 .. 3 are rows of shorts (sort 0) or floats (1; whole numbers), with 0 to 24 places, or MISSING "
-                + "(at first).");
+        Says.says("SHEETS 0 .. 3 are rows of shorts (sort 0) or floats (1; whole numbers), with 0 to 24 places, or MISSING (at first).");
         for (int sheet = -1; sheet <= 4; sheet++) {
             boolean is = sheet >= 0 && sheet <= 3;
             OakDeeds x = new OakDeeds();
@@ -91,8 +90,7 @@ final class SheetSentences {
     }
 
     private static void slots() {
-        Says.says("SLOTS 0 .. 4 each hold nothing (at first), a CALL (as it is then, for good), a SHEET (a row of its own, "
-                + "as it was then), or a number.");
+        Says.says("SLOTS 0 .. 4 each hold nothing (at first), a CALL (as it is then, for good), a SHEET (a row of its own, as it was then), or a number.");
         OakDeeds x = new OakDeeds();
         for (int slot = -1; slot <= 5; slot++) {
             boolean is = slot >= 0 && slot <= 4;
@@ -132,8 +130,7 @@ final class SheetSentences {
             Says.due("a number", s.rest(2, 1000003), number % 1000003);
         }
 
-        Says.says("FINDINGS: NOTHING: a SHEET is MISSING, a SLOT holds nothing; INDEX: there is no such place; SIZE: a "
-                + "number of places is below 0; KIND: it is none (of a KIND, a number, or another thing).");
+        Says.says("FINDINGS: NOTHING: a SHEET is MISSING, a SLOT holds nothing; INDEX: there is no such place; SIZE: a number of places is below 0; KIND: it is none (of a KIND, a number, or another thing).");
         OakDeeds w = Oak.world();
         Says.due("a missing sheet", w.mark(2, 0, 0), -1000000011);
         Says.due("a slot with nothing", w.ask(3, 0), -1000000011);
@@ -149,8 +146,7 @@ final class SheetSentences {
     }
 
     private static void images() {
-        Says.says("AN IMAGE keeps all but SHEETS, SLOTS, numbers that wait, THE TAPE; all can become as it is (again and "
-                + "again).");
+        Says.says("AN IMAGE keeps all but SHEETS, SLOTS, numbers that wait, THE TAPE; all can become as it is (again and again).");
         List<Integer> kept = Oak.image(Oak.world());
         for (int times = 1; times <= 3; times++) {
             OakDeeds x = Oak.world();
@@ -258,8 +254,7 @@ final class SheetSentences {
 
     private static void sheet() {
         Says.in("Promise 33");
-        Says.says("`int sheet(int sheet, int sort, int n)`: A SHEET becomes a row of n places of a sort, all 0 (sort -1: "
-                + "MISSING, n any): n (0).");
+        Says.says("`int sheet(int sheet, int sort, int n)`: A SHEET becomes a row of n places of a sort, all 0 (sort -1: MISSING, n any): n (0).");
         for (int sort = SHORTS; sort <= FLOATS; sort++) {
             OakDeeds x = new OakDeeds();
             Says.due("24 places", x.sheet(3, sort, 24), 24);
@@ -311,8 +306,7 @@ final class SheetSentences {
 
     private static void mark() {
         Says.in("Promise 34");
-        Says.says("`int mark(int sheet, int place, int v)`: A place of a SHEET becomes v (of shorts its lowest 16 bits; of "
-                + "floats v, -99999 .. 99999; NONE: NO NUMBER): 1.");
+        Says.says("`int mark(int sheet, int place, int v)`: A place of a SHEET becomes v (of shorts its lowest 16 bits; of floats v, -99999 .. 99999; NONE: NO NUMBER): 1.");
         for (int v : new int[] {0, 5, -5, 32767, 32768, 65535, 65536, -32768, -32769, 98304, Oak.LOW, Oak.HIGH,
             Oak.LOW + 5, BAD, 100000}) {
             OakDeeds x = row(SHORTS, 1, 2, 3);
@@ -356,8 +350,7 @@ final class SheetSentences {
 
     private static void pour() {
         Says.in("Promise 35");
-        Says.says("`int pour(int sheet, int deed)`: CALLS of a DEED (KIND 0) come from a SHEET, place by place from 0 on "
-                + "(100 times WAY, and LENGTH), up to the first that is NO NUMBER or no such CALL: how many came.");
+        Says.says("`int pour(int sheet, int deed)`: CALLS of a DEED (KIND 0) come from a SHEET, place by place from 0 on (100 times WAY, and LENGTH), up to the first that is NO NUMBER or no such CALL: how many came.");
         int[] runs = {1, 20, 101, 120, 310, 405, 517, 613, 701, 720};
         for (int sort = SHORTS; sort <= FLOATS; sort++) {
             OakDeeds x = row(sort, runs);
@@ -436,9 +429,7 @@ final class SheetSentences {
 
     private static void reads() {
         Says.in("Promise 36");
-        Says.says("`int reads(int sheet, int deed)`: The first place (of numbers alone) at which a SHEET is not what two "
-                + "CORNERS tell: places 2 i, 2 i and 1 are x, y of CORNER i of a DEED (beyond the last CORNER all that are "
-                + "numbers are not).");
+        Says.says("`int reads(int sheet, int deed)`: The first place (of numbers alone) at which a SHEET is not what two CORNERS tell: places 2 i, 2 i and 1 are x, y of CORNER i of a DEED (beyond the last CORNER all that are numbers are not).");
         int[] corners = {10, 11, 15, 11, 15, 4, 8, -3};
         for (int wrong = 0; wrong <= 8; wrong++) {
             for (int sort = SHORTS; sort <= FLOATS; sort++) {
@@ -500,8 +491,7 @@ final class SheetSentences {
 
     private static void copy() {
         Says.in("Promise 37");
-        Says.says("`int copy(int from, int place, int to, int at, int many)`: So many places of a SHEET come to another one "
-                + "(or the same), as they were: many.");
+        Says.says("`int copy(int from, int place, int to, int at, int many)`: So many places of a SHEET come to another one (or the same), as they were: many.");
         for (int sort = SHORTS; sort <= FLOATS; sort++) {
             for (int from = 0; from <= 6; from++) {
                 for (int to = 0; to <= 6; to++) {
@@ -520,8 +510,7 @@ final class SheetSentences {
         Says.due("no number comes too", at(whole, 1, 0), KIND);
         Says.due("the last one", at(whole, 1, 23), 77777);
 
-        Says.says("BAD; NOTHING; KIND: they are not of one sort; INDEX (also many below 0; with many 0, of a place above its "
-                + "length).");
+        Says.says("BAD; NOTHING; KIND: they are not of one sort; INDEX (also many below 0; with many 0, of a place above its length).");
         for (int sheet : Says.outside(0, 3)) {
             Says.refused("from " + sheet, y -> y.copy(sheet, 0, 2, 0, 1), BAD);
             Says.refused("to " + sheet, y -> y.copy(2, 0, sheet, 0, 1), BAD);
@@ -575,8 +564,7 @@ final class SheetSentences {
 
     private static void lay() {
         Says.in("Promise 38");
-        Says.says("`int lay(int slot, int thing, int k)`: A SLOT holds: thing 0 nothing, 1 CALL k (100 times the DEED, and "
-                + "the CALL), 2 SHEET k, 3 the number k: what it held (0 .. 3).");
+        Says.says("`int lay(int slot, int thing, int k)`: A SLOT holds: thing 0 nothing, 1 CALL k (100 times the DEED, and the CALL), 2 SHEET k, 3 the number k: what it held (0 .. 3).");
         for (int held = 0; held <= 3; held++) {
             for (int thing = 0; thing <= 3; thing++) {
                 OakDeeds x = Oak.world();
@@ -752,9 +740,7 @@ final class SheetSentences {
         Says.due("the sixtieth", just.tell(0), 60);
 
         Says.in("Promise 43");
-        Says.says("`int check(int deed)`: The numbers that wait (none do then, whatever is answered) are THE CORNERS TOLD of a "
-                + "DEED (of THE IMAGE), two by two: 0; else 1 and how many stand right ahead of the first that is not (or is "
-                + "missing, or one too many).");
+        Says.says("`int check(int deed)`: The numbers that wait (none do then, whatever is answered) are THE CORNERS TOLD of a DEED (of THE IMAGE), two by two: 0; else 1 and how many stand right ahead of the first that is not (or is missing, or one too many).");
         for (int calls = 0; calls <= 10; calls++) {
             for (int many = 0; many <= 2 * calls + 3; many++) {
                 OakDeeds c = steps(calls);
@@ -781,6 +767,14 @@ final class SheetSentences {
         Says.due("60 wait, 20 are due", many.check(1), 21);
         Says.due("none is told, 20 are due", many.check(1), 1);
         Says.due("none is told, none is due", many.check(0), 0);
+        OakDeeds no = new OakDeeds();
+        no.tell(1);
+        Says.due("no image", no.check(0), NO);
+        Says.due("none waits", no.count(4), 0);
+        OakDeeds bad = steps(1);
+        bad.tell(1);
+        Says.due("no such deed", bad.check(2), BAD);
+        Says.due("none waits", bad.count(4), 0);
 
         Says.says("NO: there is no IMAGE; BAD: no such DEED in it.");
         OakDeeds none = Oak.oneDeed(0, 1, 5);
@@ -885,8 +879,7 @@ final class SheetSentences {
 
     private static void count() {
         Says.in("Promise 46");
-        Says.says("`int count(int what)`: How many: 0 STONES, 1 DEEDS, 2 CALLS of all, 3 TEXTS, 4 numbers that wait, 5 bytes "
-                + "of THE TAPE, 6 z.");
+        Says.says("`int count(int what)`: How many: 0 STONES, 1 DEEDS, 2 CALLS of all, 3 TEXTS, 4 numbers that wait, 5 bytes of THE TAPE, 6 z.");
         int[] due = {3, 2, 9, 3, 12, 11, 77};
         for (int what = 0; what < 7; what++) {
             Says.due("of the world, what " + what, Oak.world().count(what), due[what]);

@@ -70,8 +70,7 @@ final class TermSentences {
     }
 
     private static void refusals() {
-        Says.says("A call that is refused answers one of BAD, NO, FULL, or a FINDING, of several the one that stands "
-                + "first with it, and changes nothing (but the tape and the numbers that wait, where told).");
+        Says.says("A call that is refused answers one of BAD, NO, FULL, or a FINDING, of several the one that stands first with it, and changes nothing (but the tape and the numbers that wait, where told).");
         Says.refusedAfter("a ninth stone, too far", TermSentences::fillStones, x -> x.stone(100, 0), BAD);
         Says.refusedAfter("a ninth stone", TermSentences::fillStones, x -> x.stone(0, 0), FULL);
         Says.refusedAfter("a fifth deed of no year", TermSentences::fillDeeds, x -> x.deed(0, 1000, 0), BAD);
@@ -169,9 +168,7 @@ final class TermSentences {
             Says.due("a stone moved to x " + at, x.move(0, at, 99) == BAD ? BAD : 0, due);
         }
 
-        Says.says("DEEDS, 4 at most, numbered from 0: a BEGINNING x, y (0 .. 29 each), a YEAR 0 .. 999, a SLACK -9 .. 9; "
-                + "and CALLS, 10 at most each, numbered from 0: a WAY 0 .. 7, a LENGTH 1 .. 20, and of KINDS: 0 CALL; "
-                + "1 STRAIGHT, 2 BACK, 5 SLIP, under CALL; 3 TO, under STRAIGHT; 4 HALF, under BACK (all are CALLS).");
+        Says.says("DEEDS, 4 at most, numbered from 0: a BEGINNING x, y (0 .. 29 each), a YEAR 0 .. 999, a SLACK -9 .. 9; and CALLS, 10 at most each, numbered from 0: a WAY 0 .. 7, a LENGTH 1 .. 20, and of KINDS: 0 CALL; 1 STRAIGHT, 2 BACK, 5 SLIP, under CALL; 3 TO, under STRAIGHT; 4 HALF, under BACK (all are CALLS).");
         deedNumbers();
         callNumbers();
         kindsUnderOneAnother();
@@ -236,8 +233,7 @@ final class TermSentences {
     }
 
     private static void needlesAndChains() {
-        Says.says("By WAYS one goes (1, 0), (1, 1), (0, 1), (-1, 1), (-1, 0), (-1, -1), (0, -1), (1, -1) for each of "
-                + "TRUE.");
+        Says.says("By WAYS one goes (1, 0), (1, 1), (0, 1), (-1, 1), (-1, 0), (-1, -1), (0, -1), (1, -1) for each of TRUE.");
         for (int way = 0; way < 8; way++) {
             OakDeeds x = Oak.oneDeed(1514, 1, 100 * way + 20);
             x.set(0, 1, 9);
@@ -245,8 +241,7 @@ final class TermSentences {
             Says.due("y by the way " + way, x.corner(0, 1, 1), 14 + 21 * Oak.WAY_Y[way]);
         }
 
-        Says.says("NEEDLE of a DEED: what needle gives, its rest by 8 (0 .. 7; of numbers below 0 and 8 more) (without a "
-                + "TEXT: 0).");
+        Says.says("NEEDLE of a DEED: what needle gives, its rest by 8 (0 .. 7; of numbers below 0 and 8 more) (without a TEXT: 0).");
         OakDeeds x = Oak.oneDeed(0);
         for (int year = 0; year <= 999; year += 333) {
             x.set(0, 0, year);
@@ -404,8 +399,7 @@ final class TermSentences {
         Says.due("no calls: the beginning", Oak.oneDeed(2900).corner(0, 0, 0), 29);
         Says.due("no calls: no other", Oak.oneDeed(2900).corner(0, 1, 0), NONE);
 
-        Says.says("GAP: from the last CORNER to the BEGINNING: x and y by which they differ, their signs left out, "
-                + "together.");
+        Says.says("GAP: from the last CORNER to the BEGINNING: x and y by which they differ, their signs left out, together.");
         Says.due("no calls", Oak.oneDeed(1010).gap(0), 0);
         for (int way = 0; way < 8; way++) {
             Says.due("by the way " + way, Oak.oneDeed(1017, 1, 100 * way + 20).gap(0), way % 2 == 0 ? 20 : 40);
@@ -435,8 +429,7 @@ final class TermSentences {
         Says.due("left of the first side", left.field(0), 45);
         Says.due("its area", left.area(0), 100);
 
-        Says.says("AREA: over all SIDES from (x, y) to (x', y'): x times y' less y times x', together (twice what is "
-                + "held, with a sign).");
+        Says.says("AREA: over all SIDES from (x, y) to (x', y'): x times y' less y times x', together (twice what is held, with a sign).");
         Says.due("no calls", Oak.oneDeed(1010).area(0), 0);
         Says.due("one call", Oak.oneDeed(1010, 1, 120).area(0), 0);
         Says.due("a square", Oak.oneDeed(1010, 1, 7, 1, 207, 1, 407).area(0), 98);
@@ -466,9 +459,7 @@ final class TermSentences {
             Says.due("whose the cell " + cell + " is", x.whose(cell), right ? 0 : BAD);
         }
 
-        Says.says("A DEED HOLDS a CELL, if of its SIDES an odd number lies so: one end's y is y or less, the other end's y "
-                + "is above y, and where the SIDE is at the height y and a half it is more to the right than x and a half "
-                + "(exactly, in fractions).");
+        Says.says("A DEED HOLDS a CELL, if of its SIDES an odd number lies so: one end's y is y or less, the other end's y is above y, and where the SIDE is at the height y and a half it is more to the right than x and a half (exactly, in fractions).");
         Says.due("twice around is even", Oak.oneDeed(0, 1, 7, 1, 207, 1, 407, 2, 1, 1, 7, 1, 207, 1, 407).field(0), 0);
         OakDeeds row = Oak.oneDeed(1010, 1, 5, 1, 201, 1, 405);
         for (int y = 8; y <= 12; y++) {
@@ -484,8 +475,7 @@ final class TermSentences {
             heldExactly(t);
         }
 
-        Says.says("WHOSE is a CELL: of DEEDS that HOLD it the one with the least RANK: what first gives (without a TEXT: "
-                + "YEAR); of several the least.");
+        Says.says("WHOSE is a CELL: of DEEDS that HOLD it the one with the least RANK: what first gives (without a TEXT: YEAR); of several the least.");
         OakDeeds w = new OakDeeds();
         Oak.rectangle(w, 0, 700, 9, 9);
         Oak.rectangle(w, 303, 600, 9, 9);
@@ -549,8 +539,7 @@ final class TermSentences {
 
     private static void slips() {
         Says.in("Terms 3");
-        Says.says("SLIPS of a DEED: 0 none; 1 a CALL left out; 2 a CALL's WAY turned about (4 more, by 8); 3 a CALL "
-                + "exchanged with the next one.");
+        Says.says("SLIPS of a DEED: 0 none; 1 a CALL left out; 2 a CALL's WAY turned about (4 more, by 8); 3 a CALL exchanged with the next one.");
         slipIs("none", Oak.oneDeed(1010, 1, 5, 1, 405), 0, 0, NONE);
         slipIs("the only one left out", Oak.oneDeed(1010, 1, 5), 0, 1, 0);
         slipIs("the last of ten left out", Oak.oneDeed(1010, 1, 5, 1, 405, 1, 6, 1, 406, 1, 7, 1, 407, 1, 8, 1, 408, 2, 1,
@@ -599,8 +588,7 @@ final class TermSentences {
     }
 
     private static void needlesThatClose() {
-        Says.says("BEST NEEDLE, BEST CHAIN: the NEEDLE 0 .. 7, the CHAIN -9 .. 9 of a DEED, in place of what counts, with "
-                + "which its GAP is least; of several the least.");
+        Says.says("BEST NEEDLE, BEST CHAIN: the NEEDLE 0 .. 7, the CHAIN -9 .. 9 of a DEED, in place of what counts, with which its GAP is least; of several the least.");
         for (int way = 0; way < 8; way++) {
             OakDeeds x = Oak.oneDeed(1010, 0, 100 * way + 5, 1, 405);
             Oak.text(x, "needle 3");
@@ -634,8 +622,7 @@ final class TermSentences {
         Says.due("its gap", chainTo(20, 16).best(0, 3), 2);
         Says.due("all chains alike", Oak.oneDeed(1010, 2, 1).best(0, 2), -9);
 
-        Says.says("LEARNT of a YEAR: the NEEDLE 0 .. 7, the same for all DEEDS of that YEAR, with which their GAPS together "
-                + "are least; of several the least.");
+        Says.says("LEARNT of a YEAR: the NEEDLE 0 .. 7, the same for all DEEDS of that YEAR, with which their GAPS together are least; of several the least.");
         OakDeeds x = new OakDeeds();
         x.deed(1010, 7, 0);
         x.deed(1010, 8, 0);
@@ -663,8 +650,7 @@ final class TermSentences {
     }
 
     private static void nearAndDraws() {
-        Says.says("NEAR a STONE: of all CORNERS of all DEEDS that from which it is least far (x and y by which they differ, "
-                + "their signs left out, together); of several the first (by DEEDS, then CORNERS).");
+        Says.says("NEAR a STONE: of all CORNERS of all DEEDS that from which it is least far (x and y by which they differ, their signs left out, together); of several the first (by DEEDS, then CORNERS).");
         OakDeeds x = new OakDeeds();
         x.stone(20, 8);
         Oak.rectangle(x, 505, 0, 10, 6);
@@ -708,8 +694,7 @@ final class TermSentences {
             Says.due("what the third one gives, by 12", drawn.told(0, 0, 2), 1 + (three >>> 8) % 12);
         }
 
-        Says.says("A CALL that is drawn: KIND the rest of a draw by 3, WAY that of one more by 8, LENGTH 1 and that of one "
-                + "more by 12.");
+        Says.says("A CALL that is drawn: KIND the rest of a draw by 3, WAY that of one more by 8, LENGTH 1 and that of one more by 12.");
         int z = 1;
         OakDeeds four = new OakDeeds();
         for (int d = 0; d < 4; d++) {

@@ -39,8 +39,7 @@ final class TextSentences {
     }
 
     private static void texts() {
-        Says.says("TEXTS, 14 at most, numbered from 0, from THE TAPE (96 bytes at most; an act that reads it uses it up, "
-                + "whatever it answers): KEY E.");
+        Says.says("TEXTS, 14 at most, numbered from 0, from THE TAPE (96 bytes at most; an act that reads it uses it up, whatever it answers): KEY E.");
         OakDeeds x = new OakDeeds();
         for (int i = 0; i < 14; i++) {
             Says.due("a text", Oak.text(x, "first y"), i);
@@ -82,9 +81,7 @@ final class TextSentences {
     }
 
     private static void grammar() {
-        Says.says("E, the loosest first: OR: AND { | AND }; AND: TEST { & TEST }; TEST: SUM [ (< | = | >) SUM ]; SUM: TERM "
-                + "{ (+ | -) TERM }; TERM: PIECE { (* | /) PIECE }; PIECE: NUMBER (1 to 4 digits) | NAME | ! PIECE | "
-                + "( E ).");
+        Says.says("E, the loosest first: OR: AND { | AND }; AND: TEST { & TEST }; TEST: SUM [ (< | = | >) SUM ]; SUM: TERM { (+ | -) TERM }; TERM: PIECE { (* | /) PIECE }; PIECE: NUMBER (1 to 4 digits) | NAME | ! PIECE | ( E ).");
         gives("0|0|2", 1);
         gives("1|0&0", 1);
         gives("0&0|1", 1);
@@ -126,8 +123,7 @@ final class TextSentences {
     }
 
     private static void names() {
-        Says.says("NAMES, each one letter: of needle y YEAR; of chain y YEAR, s SLACK; of first y YEAR, n the DEED, c how "
-                + "many CALLS it has.");
+        Says.says("NAMES, each one letter: of needle y YEAR; of chain y YEAR, s SLACK; of first y YEAR, n the DEED, c how many CALLS it has.");
         String[] keys = {"needle", "chain", "first"};
         String[] names = {"y", "ys", "ync"};
         for (int key = 0; key < 3; key++) {
@@ -167,8 +163,7 @@ final class TextSentences {
     }
 
     private static void words() {
-        Says.says("A word is a row of letters a .. z, or of digits, as long as it goes; any other byte is a sign by "
-                + "itself.");
+        Says.says("A word is a row of letters a .. z, or of digits, as long as it goes; any other byte is a sign by itself.");
         for (int b = 0; b < 256; b++) {
             char c = (char) b;
             boolean letter = b >= 'a' && b <= 'z';
@@ -201,8 +196,7 @@ final class TextSentences {
     }
 
     private static void blanks() {
-        Says.says("Between words and signs, and at the ends, there may be blanks (byte 32); a word right behind another one "
-                + "needs one.");
+        Says.says("Between words and signs, and at the ends, there may be blanks (byte 32); a word right behind another one needs one.");
         right("   first   y   ");
         right("first y" + " ".repeat(89));
         right(" ".repeat(89) + "first y");
@@ -230,9 +224,7 @@ final class TextSentences {
     }
 
     private static void faults() {
-        Says.says("FAULT: the first byte of the first word or sign with which no TEXT goes on (a word that needs a blank "
-                + "ahead of it, a NUMBER of more than 4 digits, the ninth ( that would be open within others, the ninth ! "
-                + "likewise, each by itself); the end (the place behind the last byte), if it comes too soon.");
+        Says.says("FAULT: the first byte of the first word or sign with which no TEXT goes on (a word that needs a blank ahead of it, a NUMBER of more than 4 digits, the ninth ( that would be open within others, the ninth ! likewise, each by itself); the end (the place behind the last byte), if it comes too soon.");
         fault("first y ) (", 8);
         fault("first s + q", 6);
         fault("   second y", 3);
@@ -332,8 +324,7 @@ final class TextSentences {
 
     private static void feedAndTrim() {
         Says.in("Promise 28");
-        Says.says("`int feed(int a, int b, int c)`: Twelve bytes come to THE TAPE, the highest of each number first: how "
-                + "many it has.");
+        Says.says("`int feed(int a, int b, int c)`: Twelve bytes come to THE TAPE, the highest of each number first: how many it has.");
         OakDeeds x = new OakDeeds();
         x.deed(0, 5, 0);
         x.deed(0, 6, 0);
@@ -414,8 +405,7 @@ final class TextSentences {
         Says.due("a fifteenth", Oak.text(x, "first y"), FULL);
 
         Says.in("Promise 31");
-        Says.says("`int textTold(int text, int what)`: Of a TEXT: what 0 KEY (0 needle, 1 chain, 2 first), 1 how many "
-                + "NUMBERS and NAMES it has.");
+        Says.says("`int textTold(int text, int what)`: Of a TEXT: what 0 KEY (0 needle, 1 chain, 2 first), 1 how many NUMBERS and NAMES it has.");
         String[] told = {"needle 0", "chain !!(s)", "first y", "first 1+n*(c-2222)|y&0=0", "chain 0+0+0"};
         int[] keys = {0, 1, 2, 2, 1};
         int[] atoms = {1, 1, 1, 7, 3};
