@@ -17,6 +17,9 @@ public final class OakDeeds {
     /** Eight ways: the lowest three bits are the rest by 8, of numbers below 0 too. */
     private static final int REST_BY_WAYS = WAYS - 1;
 
+    /** More than any gap, or all gaps together, or any way between two places. */
+    private static final int BEYOND = 1000000;
+
     /** Cells a side; a row of them is the lowest bits of an int. */
     private static final int CELLS = 30, WHOLE_ROW = (1 << CELLS) - 1;
 
@@ -365,7 +368,7 @@ public final class OakDeeds {
             return NONE;
         }
         int nearest = 0;
-        int least = Integer.MAX_VALUE;
+        int least = BEYOND;
         for (int d = 0; d < land.deeds; d++) {
             walk.traceDeed(d);
             for (int i = 0; i < walk.corners; i++) {
@@ -1058,7 +1061,7 @@ public final class OakDeeds {
 
         void findBestNeedle(int deed) {
             int itsChain = land.chainOf(deed);
-            bestGap = Integer.MAX_VALUE;
+            bestGap = BEYOND;
             for (int n = 0; n < WAYS; n++) {
                 takeIfBetter(n, gapBy(deed, n, itsChain));
             }
@@ -1066,7 +1069,7 @@ public final class OakDeeds {
 
         void findBestChain(int deed) {
             int itsNeedle = land.needleOf(deed);
-            bestGap = Integer.MAX_VALUE;
+            bestGap = BEYOND;
             for (int c = -MOST_SLACK; c <= MOST_SLACK; c++) {
                 takeIfBetter(c, gapBy(deed, itsNeedle, c));
             }
@@ -1080,7 +1083,7 @@ public final class OakDeeds {
         }
 
         int learntOf(int year) {
-            bestGap = Integer.MAX_VALUE;
+            bestGap = BEYOND;
             for (int n = 0; n < WAYS; n++) {
                 int gaps = 0;
                 for (int d = 0; d < land.deeds; d++) {

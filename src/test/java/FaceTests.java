@@ -20,6 +20,9 @@ public final class FaceTests {
     private static final String[] CONSTANTS = {"BAD -1000000001", "NO -1000000002", "FULL -1000000003",
         "NONE -1000000005", "NOTHING -1000000011", "KIND -1000000012", "INDEX -1000000013", "SIZE -1000000014"};
 
+    private static final Path DOCUMENT = Path.of("../shared/DOC.md");
+    private static final int HEADINGS = 7;
+
     private static int wrong = 0;
 
     private static void due(boolean holds, String what) {
@@ -30,9 +33,11 @@ public final class FaceTests {
     }
 
     public static void main(String[] args) throws Exception {
+        String source = Files.readString(Path.of("src/main/java/OakDeeds.java"));
         faceIsTheDocuments();
+        faceStandsAsInTheDocument(source);
         classesKeepToRules();
-        sourceKeepsToRules(Files.readString(Path.of("src/main/java/OakDeeds.java")));
+        sourceKeepsToRules(source);
         System.out.println(wrong == 0 ? "the face and the rules are kept" : wrong + " rules are not kept");
         if (wrong != 0) {
             System.exit(1);
@@ -79,6 +84,34 @@ public final class FaceTests {
         due(Modifier.isPublic(made[0].getModifiers()), "a public constructor");
     }
 
+    /** The document's face, name by name and in its order, with what the interface says ahead of the calls. */
+    private static void faceStandsAsInTheDocument(String source) throws Exception {
+        if (!Files.isReadable(DOCUMENT)) {
+            System.out.println(DOCUMENT + " can't be read: the face is not held against it");
+            return;
+        }
+        String document = Files.readString(DOCUMENT);
+        List<String> want = new ArrayList<>();
+        Matcher method = Pattern.compile("    (public int (\\w+)\\([^)]*\\));").matcher(document);
+        while (method.find()) {
+            Matcher ahead = Pattern.compile("Ahead of the calls `" + method.group(2) + "`,.* says: (----.*)\\.")
+                    .matcher(document);
+            if (ahead.find()) {
+                want.add("// " + ahead.group(1));
+            }
+            want.add(method.group(1));
+        }
+        List<String> got = new ArrayList<>();
+        Matcher line = Pattern.compile("(?m)^    (// ----.*|public int \\w+\\([^)]*\\))(?: \\{)?$").matcher(source);
+        while (line.find() && got.size() < want.size()) {
+            got.add(line.group(1));
+        }
+        due(want.size() == FACE.length + HEADINGS, "the document has " + want.size() + " rows of its face");
+        due(got.equals(want), "the face stands as " + got + ", due is " + want);
+        Matcher constants = Pattern.compile("public static final int ([^;]*);").matcher(document);
+        due(constants.find() && source.replaceAll("\\s+", " ").contains(constants.group()), "the constants' row");
+    }
+
     private static void classesKeepToRules() {
         List<Class<?>> all = new ArrayList<>(List.of(OakDeeds.class.getDeclaredClasses()));
         due(all.size() <= 12, "rule 11: some twelve classes");
@@ -114,9 +147,9 @@ public final class FaceTests {
         while (imports.find()) {
             due(imports.group(1).equals("java.util.Arrays"), "rule 4: import " + imports.group(1));
         }
-        Matcher library = Pattern.compile("\\b(Arrays|Integer|Math)\\.(\\w+)").matcher(code);
+        Matcher library = Pattern.compile("\\b(Arrays|Integer|Long|Math)\\.(\\w+)").matcher(code);
         while (library.find()) {
-            due(List.of("fill", "bitCount", "MAX_VALUE", "abs", "min", "max", "floorDiv").contains(library.group(2)),
+            due(List.of("fill", "bitCount", "abs", "min", "max", "floorDiv").contains(library.group(2)),
                     "rule 4: " + library.group());
         }
         methodsAreShort(source);

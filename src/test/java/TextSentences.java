@@ -27,11 +27,18 @@ final class TextSentences {
     }
 
     private static void right(String bytes) {
-        Says.due("\"" + bytes + "\"", told(bytes), 0);
+        reads(bytes, 0, 1);
     }
 
     private static void fault(String bytes, int place) {
-        Says.due("\"" + bytes + "\"", told(bytes), -100 - place);
+        reads(bytes, -100 - place, 0);
+    }
+
+    /** Whatever a new object answers to a text, the next text is read from its own first byte on. */
+    private static void reads(String bytes, int answer, int numberOfNext) {
+        OakDeeds x = new OakDeeds();
+        Says.due("\"" + bytes + "\"", Oak.text(x, bytes), answer);
+        Says.due("a text behind \"" + bytes + "\"", Oak.text(x, "first y"), numberOfNext);
     }
 
     private static void gives(String e, int value) {
